@@ -14,7 +14,15 @@ public final class FaceTest {
 
     public static void main(String[] args) throws Exception {
         Check check = new Check("FaceTest");
-        check.same("the face", faceOfDocument(Path.of(args[0])), faceOfClass());
+        TreeSet<String> told = faceOfDocument(Path.of(args[0]));
+        TreeSet<String> made = faceOfClass();
+        check.same("the document tells a constructor and 37 methods", 38, told.size());
+        for (String line : told) {
+            check.same("the class has: " + line, true, made.contains(line));
+        }
+        for (String line : made) {
+            check.same("the document has: " + line, true, told.contains(line));
+        }
         check.same("the class is final", true, Modifier.isFinal(WhalePolo.class.getModifiers()));
         for (Class<?> inside : WhalePolo.class.getDeclaredClasses()) {
             check.same(inside + " is static", true, Modifier.isStatic(inside.getModifiers()));
@@ -47,7 +55,7 @@ public final class FaceTest {
         check.same(field + " is no static state", false, isFree);
     }
 
-    private static String faceOfDocument(Path document) throws Exception {
+    private static TreeSet<String> faceOfDocument(Path document) throws Exception {
         TreeSet<String> lines = new TreeSet<>();
         boolean isFace = false;
         for (String line : Files.readAllLines(document, StandardCharsets.UTF_8)) {
@@ -59,7 +67,7 @@ public final class FaceTest {
                 lines.add(withoutNames(line.trim()));
             }
         }
-        return lines.toString();
+        return lines;
     }
 
     /** Class files need not keep the names of parameters. */
@@ -76,7 +84,7 @@ public final class FaceTest {
         return line.substring(0, open) + types + " " + end;
     }
 
-    private static String faceOfClass() {
+    private static TreeSet<String> faceOfClass() {
         TreeSet<String> lines = new TreeSet<>();
         for (Constructor<?> made : WhalePolo.class.getDeclaredConstructors()) {
             if (Modifier.isPublic(made.getModifiers())) {
@@ -90,7 +98,7 @@ public final class FaceTest {
                         + namesOf(method.getParameterTypes()) + " " + joined(method.getExceptionTypes()));
             }
         }
-        return lines.toString();
+        return lines;
     }
 
     private static List<String> namesOf(Class<?>[] types) {

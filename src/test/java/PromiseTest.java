@@ -1,10 +1,5 @@
 /** Every promise of the document by its number: ordinary calls, the edges that it names, and wrong calls. */
-public final class PromiseTest {
-
-    private static final int NORTH = 0;
-    private static final int EAST = 1;
-    private static final int SOUTH = 2;
-    private static final int WEST = 3;
+public final class PromiseTest extends Games {
 
     private final Check check = new Check("PromiseTest");
 
@@ -53,89 +48,6 @@ public final class PromiseTest {
         test.promise36();
         test.promises37And38();
         test.check.end();
-    }
-
-    /** Whales of team 0 (0 to 2) and of team 1 (3 to 5), all of strength 5 and speed 4. */
-    private static WhalePolo sixWhales() {
-        WhalePolo polo = new WhalePolo();
-        for (int whale = 0; whale < 6; whale++) {
-            polo.whale(whale / 3, 5, 4);
-        }
-        return polo;
-    }
-
-    /** The whale 0 of team 0 on the cell 10, and the whale 1 of team 1 on the cell 16. */
-    private static WhalePolo twoWhales() {
-        WhalePolo polo = new WhalePolo();
-        polo.whale(0, 5, 4);
-        polo.whale(1, 5, 4);
-        return polo;
-    }
-
-    private static void drift(WhalePolo polo, int strokes) {
-        for (int stroke = 0; stroke < strokes; stroke++) {
-            polo.drift();
-        }
-    }
-
-    private static void type(WhalePolo polo, String text) {
-        for (int index = 0; index < text.length(); index++) {
-            polo.append(text.charAt(index));
-        }
-    }
-
-    private static int readText(WhalePolo polo, String text) {
-        type(polo, text);
-        return polo.read();
-    }
-
-    private static String lineOf(WhalePolo polo, int length) {
-        StringBuilder line = new StringBuilder();
-        for (int index = 0; index < length; index++) {
-            line.append(polo.character(index));
-        }
-        return line.toString();
-    }
-
-    private static String accountsOf(WhalePolo polo) {
-        StringBuilder told = new StringBuilder();
-        for (int account = 0; account < 14; account++) {
-            told.append(account == 0 ? "" : " ").append(polo.account(account));
-        }
-        return told.toString();
-    }
-
-    private static String whaleTold(WhalePolo polo, int whale) {
-        StringBuilder told = new StringBuilder();
-        for (int what = 0; what < 9; what++) {
-            told.append(what == 0 ? "" : " ").append(polo.whaleOf(whale, what));
-        }
-        return told.toString();
-    }
-
-    /** All that was counted but the input and the changes, and the whales. */
-    private static String gameOf(WhalePolo polo) {
-        StringBuilder told = new StringBuilder();
-        for (int account = 0; account < 12; account++) {
-            told.append(polo.account(account)).append(' ');
-        }
-        for (int whale = 0; whale < polo.account(0); whale++) {
-            told.append(whaleTold(polo, whale)).append(' ');
-        }
-        return told.toString();
-    }
-
-    /** The buoy on 31, team 1 has the right, the whale 1 sings on 32, the whale 0 is on 22; the clock is 7. */
-    private static WhalePolo songAtBuoy() {
-        WhalePolo polo = twoWhales();
-        polo.swim(0, 13);
-        polo.swim(1, 14);
-        polo.swim(1, 23);
-        polo.strike(1, SOUTH, 1);
-        polo.swim(1, 32);
-        polo.sing(1);
-        polo.swim(0, 22);
-        return polo;
     }
 
     private void promise1() {
@@ -488,24 +400,6 @@ public final class PromiseTest {
         check.due("5 by its last breath", "23 0", () -> last.strike(0, EAST, 1) + " " + last.whaleOf(0, 3));
     }
 
-    /** The whale 0, of strength 3, on the cell 13 with one breath; the clock is 5. */
-    private static WhalePolo lastBreathAtBuoy() {
-        WhalePolo polo = new WhalePolo();
-        polo.whale(0, 3, 4);
-        for (int swim = 0; swim < 4; swim++) {
-            polo.swim(0, swim % 2 == 0 ? 14 : 10);
-        }
-        polo.swim(0, 13);
-        return polo;
-    }
-
-    /** The same without breath, singing; the clock is 6. */
-    private static WhalePolo tiredAtBuoy() {
-        WhalePolo polo = lastBreathAtBuoy();
-        polo.sing(0);
-        return polo;
-    }
-
     private void promise6() {
         WhalePolo polo = sixWhales();
         polo.whale(0, 1, 1);
@@ -605,8 +499,9 @@ public final class PromiseTest {
     }
 
     private void promise10() {
-        WhalePolo polo = new WhalePolo();
         for (int clock = 0; clock <= 48; clock++) {
+            WhalePolo polo = new WhalePolo();
+            drift(polo, clock);
             boolean isLow = clock % 16 >= 6 && clock % 16 <= 10;
             for (int cell : new int[] {0, 4, 8, 36, 40, 44}) {
                 check.due("10 the edge at " + clock, isLow, () -> polo.isDry(cell));
@@ -614,12 +509,9 @@ public final class PromiseTest {
             for (int cell : new int[] {9, 17, 22, 27, 35}) {
                 check.due("10 never dry", false, () -> polo.isDry(cell));
             }
-            if (clock < 48) {
-                polo.drift();
-            }
         }
         for (int wrong : new int[] {-1, 45, Integer.MIN_VALUE, Integer.MAX_VALUE}) {
-            check.index("10 no such cell", () -> polo.isDry(wrong));
+            check.index("10 no such cell", () -> new WhalePolo().isDry(wrong));
         }
     }
 
@@ -1121,7 +1013,8 @@ public final class PromiseTest {
         String before = accountsOf(polo);
         for (String text : missing) {
             check.state("33 " + text, () -> readText(polo, text));
-            check.due("33 none of them, " + text, before, () -> accountsOf(polo));
+            check.due("33 none of them, " + text, "5 2 2", () -> polo.account(0) + " " + polo.account(1) + " "
+                + polo.account(13));
         }
         check.none("33 no reason by these", () -> polo.reason(0));
         check.refused("33 refused", 3, 4, 1, polo, () -> readText(polo, "d;m4@9"));
