@@ -133,6 +133,7 @@ final class BuoyPromises extends Sentences {
         due("no goal in the east", "5 6 7 8 8", () -> would(polo, 0, EAST));
         due("no goal in the west", "3 2 1 0 0", () -> would(polo, 0, WEST));
         drift(polo, 4);
+        due("dry, to the north", "4 4 4 4 4", () -> would(polo, 0, NORTH));
         due("dry, to the east", "4 4 4 4 4", () -> would(polo, 0, EAST));
         due("dry, to the south", "13 22 31 31 31", () -> would(polo, 0, SOUTH));
     }
@@ -243,6 +244,7 @@ final class BuoyPromises extends Sentences {
         due("no goal in the east", "5 6 7 8 8", () -> wouldAgain(polo, 0, EAST));
         due("no goal in the west", "3 2 1 0 0", () -> wouldAgain(polo, 0, WEST));
         drift(polo, 4);
+        due("dry, to the north", "4 4 4 4 4", () -> wouldAgain(polo, 0, NORTH));
         due("dry, to the east", "4 4 4 4 4", () -> wouldAgain(polo, 0, EAST));
         due("dry, to the south", "13 22 31 31 31", () -> wouldAgain(polo, 0, SOUTH));
     }
@@ -525,6 +527,16 @@ final class BuoyPromises extends Sentences {
         polo.swim(0, 13);
         polo.strike(0, WEST, 4);
         polo.swim(1, 17);
+        due("0 0", () -> polo.beside(0) + " " + polo.beside(1));
+    }
+
+    @Holds(promise = 21, says = BESIDE)
+    void noneThatHasNotComeIsBesideTheBuoyInTheWest() {
+        WhalePolo polo = twoWhales();
+        polo.swim(0, 13);
+        polo.strike(0, NORTH, 1);
+        polo.strike(0, WEST, 4);
+        due("the buoy", 9, () -> polo.account(5));
         due("0 0", () -> polo.beside(0) + " " + polo.beside(1));
     }
 

@@ -290,6 +290,24 @@ final class FieldPromises extends Sentences {
         due("from 25 to 7", 4, () -> polo.steps(4, 7));
     }
 
+    /** The whale 0 of team 0 on the first cell, the whale 1 of team 1 on the last one. */
+    private static WhalePolo whalesInTheCorners() {
+        WhalePolo polo = twoWhales();
+        polo.swim(0, 0);
+        polo.swim(1, 35);
+        polo.swim(1, 44);
+        return polo;
+    }
+
+    @Holds(promise = 14, says = SPREADING)
+    void theStepsFromTheFirstAndTheLastCell() {
+        WhalePolo polo = whalesInTheCorners();
+        due("from 0 to 0", 0, () -> polo.steps(0, 0));
+        due("from 0 to 43", 11, () -> polo.steps(0, 43));
+        due("from 44 to 44", 0, () -> polo.steps(1, 44));
+        due("from 44 to 1", 11, () -> polo.steps(1, 1));
+    }
+
     /** The whale 0 in the corner between a dry cell and the whales 1 and 2; the clock is 6. */
     private static WhalePolo shutIn() {
         WhalePolo polo = sixWhales();
@@ -342,6 +360,15 @@ final class FieldPromises extends Sentences {
     }
 
     @Holds(promise = 15, says = LOWERING)
+    void theStepsAgainFromTheFirstAndTheLastCell() {
+        WhalePolo polo = whalesInTheCorners();
+        due("from 0 to 0", 0, () -> polo.stepsAgain(0, 0));
+        due("from 0 to 43", 11, () -> polo.stepsAgain(0, 43));
+        due("from 44 to 44", 0, () -> polo.stepsAgain(1, 44));
+        due("from 44 to 1", 11, () -> polo.stepsAgain(1, 1));
+    }
+
+    @Holds(promise = 15, says = LOWERING)
     void theStepsAgainAroundOtherWhales() {
         WhalePolo polo = sixWhales();
         due("from 19 to 1", 4, () -> polo.stepsAgain(1, 1));
@@ -386,6 +413,13 @@ final class FieldPromises extends Sentences {
         WhalePolo polo = new WhalePolo();
         polo.whale(0, 1, 1);
         due("four beside it", 4, () -> polo.reach(0));
+    }
+
+    @Holds(promise = 16, says = "Returns to how many other cells a whale could swim by a stroke now.")
+    void theReachFromTheFirstAndTheLastCell() {
+        WhalePolo polo = whalesInTheCorners();
+        due("from 0", 14, () -> polo.reach(0));
+        due("from 44", 14, () -> polo.reach(1));
     }
 
     @Holds(promise = 16, says = "Returns to how many other cells a whale could swim by a stroke now.")

@@ -319,6 +319,24 @@ final class StrikeTerms extends Sentences {
         due("the right of the other", 1, () -> polo.account(6));
     }
 
+    @Holds(says = "Otherwise the team that struck has the right.")
+    void aStrikeBehindOneInTheNetsIsNotInTheNets() {
+        WhalePolo polo = whaleOn(13);
+        polo.strike(0, NORTH, 5);
+        due("the nets", "1 1", () -> netsAndRight(polo));
+        polo.strike(0, SOUTH, 1);
+        due("no more of them", "1 0", () -> netsAndRight(polo));
+    }
+
+    @Holds(says = "Otherwise the team that struck has the right.")
+    void aStrikeBehindAQuestionAboutTheNetsIsNotInTheNets() {
+        WhalePolo polo = whaleOn(13);
+        polo.would(0, NORTH, 5);
+        polo.wouldAgain(0, NORTH, 5);
+        polo.strike(0, SOUTH, 1);
+        due("no nets", "0 0", () -> netsAndRight(polo));
+    }
+
     // Goals.
 
     @Holds(says = GOAL)
