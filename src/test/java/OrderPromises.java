@@ -155,6 +155,17 @@ final class OrderPromises extends Sentences {
         due(1, () -> polo.calf(0));
     }
 
+    @Holds(promise = 23, says = CALF)
+    void theFirstWhaleOfAllAsACalf() {
+        WhalePolo polo = sixWhales();
+        polo.whale(0, 4, 4);
+        polo.whale(0, 5, 4);
+        polo.swap(0, 6);
+        due("the lowest of two that are as strong", 0, () -> polo.calf(0));
+        polo.swap(1, 7);
+        due("of the whales that went", 0, () -> polo.calf(0));
+    }
+
     @Holds(promise = 23, says = "Throws `IllegalArgumentException` if there is no such team")
     void theCalfOfNoTeam() {
         WhalePolo polo = tenWhales();

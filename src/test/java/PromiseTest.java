@@ -843,6 +843,10 @@ public final class PromiseTest extends Games {
         check.due("23 the most breath", 6, () -> polo.calf(0));
         polo.swap(1, 6);
         check.due("23 back on the bench", 1, () -> polo.calf(0));
+        WhalePolo other = sixWhales();
+        other.whale(0, 5, 4);
+        other.swap(0, 6);
+        check.due("23 the whale 0", 0, () -> other.calf(0));
         for (int wrong : new int[] {-1, 2, Integer.MIN_VALUE, Integer.MAX_VALUE}) {
             check.argument("23 no such team", () -> polo.calf(wrong));
         }
